@@ -649,11 +649,11 @@ public final class SureNoes {
         }
 
         int placeFor(int key, int m) {
-            return m > 0 ? valueFor(key) % m : 0;
+            return m > 0 ? (a * key + b) % PRIME % m : 0;
         }
 
         int markFor(int key) {
-            return valueFor(key) % MARKS + 1;
+            return (a * key + b) % PRIME % MARKS + 1;
         }
     }
 
