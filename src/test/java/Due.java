@@ -1,3 +1,5 @@
+import java.util.function.LongSupplier;
+
 /** What the tests share: it prints each call whose answer is not the one that is due. */
 final class Due {
   private static int wrong = 0;
@@ -18,6 +20,22 @@ final class Due {
 
   static void holds(String what, boolean so) {
     is(what, so ? 1 : 0, 1);
+  }
+
+  /** A call that is refused as it is due, and changes nothing. */
+  static void refused(SureNoes x, String call, LongSupplier asked, long want) {
+    long before = x.digest();
+    is(call, asked.getAsLong(), want);
+    is(call + " changes nothing: digest", x.digest(), before);
+  }
+
+  /** A new object with the laws told as A, B, A, B and so on. */
+  static SureNoes withLaws(int... laws) {
+    SureNoes x = new SureNoes();
+    for (int i = 0; i + 1 < laws.length; i += 2) {
+      is("law(" + laws[i] + ", " + laws[i + 1] + ")", x.law(laws[i], laws[i + 1]), i / 2);
+    }
+    return x;
   }
 
   /** Keys told one by one, as bits. */
