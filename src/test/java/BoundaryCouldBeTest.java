@@ -34,6 +34,8 @@ public final class BoundaryCouldBeTest {
     p23NoneAndAll();
     p23OnePlaceAlone();
     p23OneAtEach();
+    p23FirstKeyAndFirstPlace();
+    p23NothingStaysTied();
     p23AnEmptyOneLikeIt();
     p23Refusals();
     Due.end();
@@ -408,6 +410,27 @@ public final class BoundaryCouldBeTest {
     Due.is("p23 four keys, three places", x.most(0, Due.set(8, 16, 11, 19)), 3);
     Due.is("p23 eight keys, six places", x.most(0, Due.set(8, 16, 11, 19, 9, 17, 12, 20)), 6);
     Due.is("p23 key 0 ties place 6 to them", x.most(0, Due.set(0, 8, 16, 11, 19, 9, 17, 12, 20)), 6);
+  }
+
+  /** 23: the first key and the first place count like others: place 0 as the other one, key 0 with room at 6. */
+  private static void p23FirstKeyAndFirstPlace() {
+    SureNoes x = Due.withLaws(1, 0, 2, 5);
+    x.book(3, 8, 3);
+    // Places of 11, 19: 3 and 0; of 8, 16: 0 and 5; of 0: 0 and 6; of 14: 6 and 0.
+    Due.is("p23 one of two at place 0", x.most(0, Due.set(11, 19)), 2);
+    Due.is("p23 four keys, three places", x.most(0, Due.set(8, 16, 11, 19)), 3);
+    Due.is("p23 key 0 instead, four places", x.most(0, Due.set(8, 16, 11, 0)), 4);
+  }
+
+  /** 23: what was asked ahead ties no places now: key 14 has 6 and 0, the others 1 and 6, 4 and 6. */
+  private static void p23NothingStaysTied() {
+    SureNoes x = Due.withLaws(1, 0, 2, 5);
+    x.book(3, 8, 3);
+    long others = Due.set(9, 17, 12, 20);
+    Due.is("p23 four keys, three places", x.most(0, others), 3);
+    Due.is("p23 place 0 by one key more", x.most(0, others | Due.set(14)), 4);
+    Due.is("p23 key 14 alone", x.most(0, Due.set(14)), 1);
+    Due.is("p23 place 0 is no longer theirs", x.most(0, others), 3);
   }
 
   /** 23: "in an empty one like it"; nothing changes. */
